@@ -1,0 +1,39 @@
+import java.util.Arrays;
+
+/** Compares answers with what is due, and ends the test with exit code 1 if one was wrong. */
+final class Due {
+    private int wrong = 0;
+    private int seen = 0;
+    private String about = "";
+
+    void about(String what) {
+        about = what;
+    }
+
+    void is(String call, long got, long due) {
+        seen++;
+        if (got != due) {
+            wrong++;
+            System.out.println(about + ": " + call + " answered " + got + ", due is " + due);
+        }
+    }
+
+    void are(String what, long[] got, long... due) {
+        seen++;
+        if (!Arrays.equals(got, due)) {
+            wrong++;
+            System.out.println(about + ": " + what + " is " + Arrays.toString(got) + ", due is " + Arrays.toString(due));
+        }
+    }
+
+    int wrongSoFar() {
+        return wrong;
+    }
+
+    void end() {
+        System.out.println(seen + " answers, " + wrong + " not as due");
+        if (wrong != 0 || seen == 0) {
+            System.exit(1);
+        }
+    }
+}
