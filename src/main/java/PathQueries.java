@@ -594,7 +594,6 @@ public final class PathQueries {
             if (t < next) {
                 continue;
             }
-            next = t + 1;
             int token = query[t];
             if (token == NOT) {
                 negated[group] = !negated[group];
@@ -694,9 +693,7 @@ public final class PathQueries {
     private int bitCount(long list) {
         int bits = 0;
         for (int r = 0; r < NODES; r++) {
-            if (has(list, r)) {
-                bits++;
-            }
+            bits += (int) (list >> r & 1L);
         }
         return bits;
     }

@@ -1,3 +1,5 @@
+import java.util.Arrays;
+
 /** Short ways to use a PathQueries object in the tests. */
 final class Calls {
     static final int REFUSED = PathQueries.REFUSED;
@@ -74,12 +76,12 @@ final class Calls {
         return ids;
     }
 
-    /** Everything that can be asked of the tree, so that two of these tell whether a call changed it. */
-    static String tree(PathQueries x) {
+    /** What can be asked of the tree for the ids below a bound, so that two of these tell whether a call changed it. */
+    static String tree(PathQueries x, int bound) {
         StringBuilder text = new StringBuilder();
-        for (int id = -1; id <= 40; id++) {
-            text.append(id).append(':').append(x.parent(id)).append('/').append(x.rank(id)).append('/').append(x.size(id))
-                    .append('/').append(x.value(id)).append('/').append(java.util.Arrays.toString(children(x, id))).append(' ');
+        for (int id = 0; id < bound; id++) {
+            long[] asked = {id, x.parent(id), x.rank(id), x.size(id), x.value(id)};
+            text.append(Arrays.toString(asked)).append(Arrays.toString(children(x, id)));
         }
         return text.toString();
     }

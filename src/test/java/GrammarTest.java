@@ -19,6 +19,10 @@ public final class GrammarTest {
         QueryMaker maker = new QueryMaker(numbers);
         PathQueries x = new PathQueries(4);
         for (int round = 0; round < 4000; round++) {
+            // An object is good for 512 calls, and a round takes at most 41.
+            if (round % 12 == 0) {
+                x = new PathQueries(4);
+            }
             int[] tokens = round % 5 == 0 ? freely(numbers) : maker.query();
             if (round % 5 > 1) {
                 tokens = spoiled(tokens, numbers);

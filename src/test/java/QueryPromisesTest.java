@@ -24,6 +24,8 @@ public final class QueryPromisesTest {
         selectRefuses();
         resultIsKept();
         totals();
+        fullTree();
+        oneObjectManyQueries();
         heavyQueriesEnd();
         due.end();
     }
@@ -442,6 +444,41 @@ public final class QueryPromisesTest {
         Calls.compile(x, 23, 48, 22, 48, 21, 48);
         x.select(0);
         due.is("each node once", x.total(), 38L * Integer.MIN_VALUE);
+    }
+
+    private static void fullTree() {
+        due.about("a tree of forty nodes");
+        PathQueries x = new PathQueries(40);
+        for (int i = 1; i < 40; i++) {
+            x.insert(i - 1, 0, 1, i);
+        }
+        due.is("compile", Calls.compile(x, 25, 48), 0);
+        due.is("all", x.select(0), 40);
+        due.is("picked(39)", x.picked(39), 39);
+        due.is("picked(40)", x.picked(40), REFUSED);
+        due.is("total()", x.total(), 780);
+        due.is("compile", Calls.compile(x, 20, 48, 1, 11, 25, 48, 13, 2040, 2), 0);
+        due.is("a count of forty", x.select(0), 1);
+        due.is("a count of less", x.select(1), 0);
+        due.is("compile", Calls.compile(x, 26, 48, 1, 8, 13, 2040, 5, 9, 2), 0);
+        due.is("place forty", x.select(39), 1);
+        due.is("picked(0)", x.picked(0), 0);
+    }
+
+    private static void oneObjectManyQueries() {
+        due.about("a query leaves nothing behind for the next one");
+        PathQueries x = Calls.sample(40);
+        Calls.compile(x, 21, 48, 1, 21, 48, 1, 10, 12, 2002, 2, 2, 1, 7, 3, 9, 4, 2);
+        due.is("select(0)", x.select(0), 2);
+        Calls.compile(x, 23, 48, 1, 8, 14, 2001, 2, 1, 9, 6, 10, 13, 2009, 2, 1, 9, 2);
+        due.is("select(0)", x.select(0), 1);
+        due.is("picked(0)", x.picked(0), 12);
+        Calls.compile(x, 20, 48, 21, 41, 1, 9, 2, 21, 48);
+        due.is("select(0)", x.select(0), 1);
+        due.is("picked(0)", x.picked(0), 10);
+        Calls.compile(x, 21, 42, 1, 7, 21, 48, 1, 9, 5, 10, 14, 2000, 2, 2);
+        due.is("select(0)", x.select(0), 1);
+        due.is("picked(0)", x.picked(0), 2);
     }
 
     private static void heavyQueriesEnd() {

@@ -154,7 +154,7 @@ public final class TreePromisesTest {
         due.is("to the front", x.move(1, 0, 0), 1);
         due.are("the children of 0", Calls.children(x, 0), 1, 3, 2);
         due.is("place 3 of 2 others", x.move(1, 0, 3), REFUSED);
-        due.is("place 3 of 3 others", x.move(4, 0, 3), 12 - 1);
+        due.is("place 3 of 3 others", x.move(4, 0, 3), 11);
         due.are("the children of 0", Calls.children(x, 0), 1, 3, 2, 4);
     }
 
@@ -260,7 +260,7 @@ public final class TreePromisesTest {
         Calls.compile(x, 21, 48);
         x.select(0);
         x.put(23, 41, 0);
-        String before = Calls.tree(x);
+        String before = Calls.tree(x, 16);
         x.insert(0, 0, 1, 1);
         x.insert(0, 0, 8, 1);
         x.insert(1, 4, 1, 1);
@@ -277,7 +277,7 @@ public final class TreePromisesTest {
         x.alter(39, 1, 77);
         x.select(39);
         x.picked(3);
-        due.is("the tree is as before", Calls.tree(x).equals(before) ? 1 : 0, 1);
+        due.is("the tree is as before", Calls.tree(x, 16).equals(before) ? 1 : 0, 1);
         due.are("the result", Calls.picks(x), 1, 2, 3);
         due.is("total()", x.total(), 18);
         due.is("put(0, 0, 0)", x.put(0, 0, 0), 2);
