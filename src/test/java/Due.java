@@ -26,6 +26,14 @@ final class Due {
         }
     }
 
+    void same(String what, String got, String due) {
+        seen++;
+        if (!got.equals(due)) {
+            wrong++;
+            System.out.println(about + ": " + what + " is " + got + ", due is " + due);
+        }
+    }
+
     int wrongSoFar() {
         return wrong;
     }

