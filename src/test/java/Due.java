@@ -10,6 +10,19 @@ final class Due {
         about = what;
     }
 
+    /** Runs the tests one after the other and ends; one that is cut short by an exception doesn't hold up the others. */
+    void run(Runnable... tests) {
+        for (Runnable test : tests) {
+            try {
+                test.run();
+            } catch (RuntimeException thrown) {
+                wrong++;
+                System.out.println(about + ": cut short by " + thrown + " at " + thrown.getStackTrace()[0]);
+            }
+        }
+        end();
+    }
+
     void is(String call, long got, long due) {
         seen++;
         if (got != due) {

@@ -10,26 +10,26 @@ public final class QueryEdgesTest {
     private static final Asked asked = new Asked(due);
 
     public static void main(String[] args) {
-        putLeavesZerosOut();
-        putIsFull();
-        putAnswersHowManyArePending();
-        compileLeavesNonePending();
-        compileOfAQuery();
-        compileTellsTheFirstWrongToken();
-        compileTellsOnePlaceMore();
-        compileKeepsTheQueryFromBefore();
-        selectWithoutAQuery();
-        selectAnswersTheNumber();
-        theResultIsKept();
-        aRefusedSelectKeepsTheResult();
-        pickedPlaces();
-        pickedInDocumentOrder();
-        atFirstTheResultIsEmpty();
-        totalIsALong();
-        totalOfTheTimeOfTheSelect();
-        refusedIsTestedBeforeFull();
-        refusedCallsChangeNothing();
-        due.end();
+        due.run(
+                QueryEdgesTest::putLeavesZerosOut,
+                QueryEdgesTest::putIsFull,
+                QueryEdgesTest::putAnswersHowManyArePending,
+                QueryEdgesTest::compileLeavesNonePending,
+                QueryEdgesTest::compileOfAQuery,
+                QueryEdgesTest::compileTellsTheFirstWrongToken,
+                QueryEdgesTest::compileTellsOnePlaceMore,
+                QueryEdgesTest::compileKeepsTheQueryFromBefore,
+                QueryEdgesTest::selectWithoutAQuery,
+                QueryEdgesTest::selectAnswersTheNumber,
+                QueryEdgesTest::theResultIsKept,
+                QueryEdgesTest::aRefusedSelectKeepsTheResult,
+                QueryEdgesTest::pickedPlaces,
+                QueryEdgesTest::pickedInDocumentOrder,
+                QueryEdgesTest::atFirstTheResultIsEmpty,
+                QueryEdgesTest::totalIsALong,
+                QueryEdgesTest::totalOfTheTimeOfTheSelect,
+                QueryEdgesTest::refusedIsTestedBeforeFull,
+                QueryEdgesTest::refusedCallsChangeNothing);
     }
 
     private static void putLeavesZerosOut() {
@@ -117,6 +117,8 @@ public final class QueryEdgesTest {
         due.is("select(0)", x.select(0), 2);
         due.is("twenty steps", Calls.compile(x, Asked.forty(tokens(21, 48), 20, 48)), 0);
         due.is("select(0)", x.select(0), 3);
+        due.is("twenty steps down", Calls.compile(x, Asked.forty(tokens(21, 48), 21, 48)), 0);
+        due.is("select(0)", x.select(0), 0);
         due.is("a short one behind a long one", Calls.compile(x, 20, 48), 0);
         due.is("select(0)", x.select(0), 1);
         due.is("picked(0)", x.picked(0), 0);

@@ -6,20 +6,20 @@ public final class QueryPromisesTest {
     private static final Asked asked = new Asked(due);
 
     public static void main(String[] args) {
-        compileTakesThePending();
-        compileTellsThePlace();
-        compileKnowsEveryToken();
-        namesAndOrder();
-        positions();
-        chainsOfPredicates();
-        logic();
-        pathsAndCounts();
-        longPaths();
-        nestedPredicates();
-        resultIsKept();
-        oneObjectManyQueries();
-        heavyQueriesEnd();
-        due.end();
+        due.run(
+                QueryPromisesTest::compileTakesThePending,
+                QueryPromisesTest::compileTellsThePlace,
+                QueryPromisesTest::compileKnowsEveryToken,
+                QueryPromisesTest::namesAndOrder,
+                QueryPromisesTest::positions,
+                QueryPromisesTest::chainsOfPredicates,
+                QueryPromisesTest::logic,
+                QueryPromisesTest::pathsAndCounts,
+                QueryPromisesTest::longPaths,
+                QueryPromisesTest::nestedPredicates,
+                QueryPromisesTest::resultIsKept,
+                QueryPromisesTest::oneObjectManyQueries,
+                QueryPromisesTest::heavyQueriesEnd);
     }
 
     private static void compileTakesThePending() {

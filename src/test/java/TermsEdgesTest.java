@@ -12,36 +12,36 @@ public final class TermsEdgesTest {
     private static final Asked asked = new Asked(due);
 
     public static void main(String[] args) {
-        lastOf512Calls();
-        idsRunFrom0To39();
-        theRootIsAlwaysThere();
-        theRootAtFirst();
-        namesRunFrom0To7();
-        valuesAreInts();
-        childrenAreOrdered();
-        documentOrder();
-        atMostFortyNodes();
-        axesOfTheRoot();
-        axesOfLeaves();
-        axesOfFirstAndLastChildren();
-        orderOfTheAxes();
-        axisTokens();
-        nameTokens();
-        numberTokens();
-        otherTokens();
-        aPathGoesOn();
-        openBrackets();
-        openParentheses();
-        namesInAStep();
-        predicatesInARow();
-        positions();
-        last();
-        values();
-        pathsInPredicates();
-        counts();
-        pathsOfMoreSteps();
-        idsOfNoNode();
-        due.end();
+        due.run(
+                TermsEdgesTest::lastOf512Calls,
+                TermsEdgesTest::idsRunFrom0To39,
+                TermsEdgesTest::theRootIsAlwaysThere,
+                TermsEdgesTest::theRootAtFirst,
+                TermsEdgesTest::namesRunFrom0To7,
+                TermsEdgesTest::valuesAreInts,
+                TermsEdgesTest::childrenAreOrdered,
+                TermsEdgesTest::documentOrder,
+                TermsEdgesTest::atMostFortyNodes,
+                TermsEdgesTest::axesOfTheRoot,
+                TermsEdgesTest::axesOfLeaves,
+                TermsEdgesTest::axesOfFirstAndLastChildren,
+                TermsEdgesTest::orderOfTheAxes,
+                TermsEdgesTest::axisTokens,
+                TermsEdgesTest::nameTokens,
+                TermsEdgesTest::numberTokens,
+                TermsEdgesTest::otherTokens,
+                TermsEdgesTest::aPathGoesOn,
+                TermsEdgesTest::openBrackets,
+                TermsEdgesTest::openParentheses,
+                TermsEdgesTest::namesInAStep,
+                TermsEdgesTest::predicatesInARow,
+                TermsEdgesTest::positions,
+                TermsEdgesTest::last,
+                TermsEdgesTest::values,
+                TermsEdgesTest::pathsInPredicates,
+                TermsEdgesTest::counts,
+                TermsEdgesTest::pathsOfMoreSteps,
+                TermsEdgesTest::idsOfNoNode);
     }
 
     private static void lastOf512Calls() {

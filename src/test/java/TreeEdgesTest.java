@@ -8,30 +8,30 @@ public final class TreeEdgesTest {
     private static final Due due = new Due();
 
     public static void main(String[] args) {
-        limitIsClamped();
-        insertAtAPlace();
-        insertWithNoName();
-        insertAtNoPlace();
-        insertIntoAFullTree();
-        insertTakesTheLeastId();
-        removeTakesTheWholeSubtree();
-        removeOfTheRoot();
-        removeAnswersHowManyWent();
-        movePlaces();
-        moveToNoPlace();
-        moveOfTheRoot();
-        moveIntoItsSubtree();
-        moveAnswersTheRank();
-        moveInAFullTree();
-        alterNames();
-        alterValues();
-        alterAnswersTheOldName();
-        parentOfTheRoot();
-        noSuchChild();
-        rankOfTheRoot();
-        sizeCountsTheNodeItself();
-        valueOfNoNode();
-        due.end();
+        due.run(
+                TreeEdgesTest::limitIsClamped,
+                TreeEdgesTest::insertAtAPlace,
+                TreeEdgesTest::insertWithNoName,
+                TreeEdgesTest::insertAtNoPlace,
+                TreeEdgesTest::insertIntoAFullTree,
+                TreeEdgesTest::insertTakesTheLeastId,
+                TreeEdgesTest::removeTakesTheWholeSubtree,
+                TreeEdgesTest::removeOfTheRoot,
+                TreeEdgesTest::removeAnswersHowManyWent,
+                TreeEdgesTest::movePlaces,
+                TreeEdgesTest::moveToNoPlace,
+                TreeEdgesTest::moveOfTheRoot,
+                TreeEdgesTest::moveIntoItsSubtree,
+                TreeEdgesTest::moveAnswersTheRank,
+                TreeEdgesTest::moveInAFullTree,
+                TreeEdgesTest::alterNames,
+                TreeEdgesTest::alterValues,
+                TreeEdgesTest::alterAnswersTheOldName,
+                TreeEdgesTest::parentOfTheRoot,
+                TreeEdgesTest::noSuchChild,
+                TreeEdgesTest::rankOfTheRoot,
+                TreeEdgesTest::sizeCountsTheNodeItself,
+                TreeEdgesTest::valueOfNoNode);
     }
 
     private static void limitIsClamped() {
@@ -255,6 +255,7 @@ public final class TreeEdgesTest {
     private static void moveInAFullTree() {
         due.about("Promise 4: The node, with its subtree, leaves its place (a full tree has room for that)");
         PathQueries x = Calls.chain(40);
+        due.is("all but the root, to where it is", x.move(1, 0, 0), 1);
         due.is("half of the chain", x.move(20, 0, 1), 20);
         due.is("size(0)", x.size(0), 40);
         due.is("size(20)", x.size(20), 20);

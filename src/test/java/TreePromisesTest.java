@@ -6,16 +6,16 @@ public final class TreePromisesTest {
     private static final Due due = new Due();
 
     public static void main(String[] args) {
-        insert();
-        insertTakesTheLeastFreeId();
-        remove();
-        moveToOtherParents();
-        moveAmongSiblings();
-        alter();
-        parentAndChild();
-        rankAndSize();
-        value();
-        due.end();
+        due.run(
+                TreePromisesTest::insert,
+                TreePromisesTest::insertTakesTheLeastFreeId,
+                TreePromisesTest::remove,
+                TreePromisesTest::moveToOtherParents,
+                TreePromisesTest::moveAmongSiblings,
+                TreePromisesTest::alter,
+                TreePromisesTest::parentAndChild,
+                TreePromisesTest::rankAndSize,
+                TreePromisesTest::value);
     }
 
     private static void insert() {
