@@ -1,12 +1,12 @@
 /** Promises 12 to 14 in ordinary runs: queries, their meaning and their results. */
 public final class QueryPromisesTest {
     private static final int REFUSED = PathQueries.REFUSED;
-    private static final int FULL = PathQueries.FULL;
     private static final Due due = new Due();
     private static final Asked asked = new Asked(due);
 
     public static void main(String[] args) {
         due.run(
+                QueryPromisesTest::exampleOfTheReadme,
                 QueryPromisesTest::compileTakesThePending,
                 QueryPromisesTest::compileTellsThePlace,
                 QueryPromisesTest::compileKnowsEveryToken,
@@ -20,6 +20,25 @@ public final class QueryPromisesTest {
                 QueryPromisesTest::resultIsKept,
                 QueryPromisesTest::oneObjectManyQueries,
                 QueryPromisesTest::heavyQueriesEnd);
+    }
+
+    private static void exampleOfTheReadme() {
+        due.about("the example of README.md");
+        PathQueries x = new PathQueries(40);
+        due.is("insert(0, 0, 1, 5)", x.insert(0, 0, 1, 5), 1);
+        due.is("insert(0, 1, 2, 6)", x.insert(0, 1, 2, 6), 2);
+        due.is("insert(1, 0, 2, 9)", x.insert(1, 0, 2, 9), 3);
+        due.is("put(23, 42, 1)", x.put(23, 42, 1), 3);
+        due.is("put(10, 14, 2007)", x.put(10, 14, 2007), 6);
+        due.is("put(2, 0, 0)", x.put(2, 0, 0), 7);
+        due.is("compile()", x.compile(), 0);
+        due.is("select(0)", x.select(0), 1);
+        due.is("picked(0)", x.picked(0), 3);
+        due.is("total()", x.total(), 9);
+        due.is("put(21, 48, 2)", x.put(21, 48, 2), 3);
+        due.is("compile()", x.compile(), 3);
+        due.is("move(3, 0, 0)", x.move(3, 0, 0), 1);
+        due.is("remove(0)", x.remove(0), REFUSED);
     }
 
     private static void compileTakesThePending() {
